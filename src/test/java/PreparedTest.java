@@ -1,0 +1,81 @@
+import java.lang.reflect.Field;
+
+/**
+ * Spoils what is prepared, cell by cell, from outside: sound() must see each one, agree() must see
+ * what changes a distance, and an engine must be the only one to use what is prepared for it.
+ */
+public final class PreparedTest {
+    private static final String[][] PREPARED = {
+        {}, {"table"}, {"fromMark", "toMark"}, {"climb"}, {"toHub", "fromHub"}, {"flagged"}, {"signs"}
+    };
+    private static final Check CHECK = new Check();
+
+    public static void main(String[] args) throws ReflectiveOperationException {
+        for (int engine = 1; engine < PREPARED.length; engine++) {
+            for (String name : PREPARED[engine]) {
+                everyCellCounts(name);
+            }
+            onlyItsEngineSees(engine);
+        }
+        anOldPreparationShows();
+        CHECK.finish();
+    }
+
+    /** A ring of all points with some roads across, and point 11 with no way to it. */
+    private static RouteSuite net() {
+        RouteSuite x = new RouteSuite();
+        for (int p = 0; p < 11; p++) {
+            x.add(p, (p + 1) % 11, 2 + p % 3);
+            x.add(p, (p + 4) % 11, 9);
+        }
+        x.add(11, 0, 5);
+        return x;
+    }
+
+    private static int[] cells(RouteSuite x, String name) throws ReflectiveOperationException {
+        Field field = RouteSuite.class.getDeclaredField(name);
+        field.setAccessible(true);
+        return (int[]) field.get(x);
+    }
+
+    private static void everyCellCounts(String name) throws ReflectiveOperationException {
+        int count = cells(net(), name).length;
+        for (int i = 0; i < count; i++) {
+            RouteSuite x = net();
+            int[] cells = cells(x, name);
+            int right = cells[i];
+            int[] wrongs = name.equals("signs") ? new int[] {right < 0 ? 0 : -1, -2, 28} : new int[] {right + 1, right - 1};
+            for (int wrong : wrongs) {
+                cells[i] = wrong;
+                CHECK.due("sound() with " + wrong + " for " + right + " at " + name + " " + i, x.sound(), false);
+            }
+            cells[i] = right;
+            CHECK.due("sound() with " + name + " " + i + " put right", x.sound(), true);
+        }
+    }
+
+    private static void onlyItsEngineSees(int engine) throws ReflectiveOperationException {
+        RouteSuite x = net();
+        for (String name : PREPARED[engine]) {
+            int[] cells = cells(x, name);
+            for (int i = 0; i < cells.length; i++) {
+                cells[i] = name.equals("flagged") ? 0 : name.equals("signs") ? -1 : (i * 7 + cells[i] * 5) % 300;
+            }
+        }
+        for (int other = 0; other < PREPARED.length; other++) {
+            CHECK.due("agree(" + engine + ", " + other + ") with " + engine + " spoilt",
+                x.agree(engine, other), other == engine);
+            CHECK.due("agree(" + other + ", " + engine + ") with " + engine + " spoilt",
+                x.agree(other, engine), other == engine);
+            CHECK.due("agree(" + other + ", 0) with " + engine + " spoilt", x.agree(other, 0), other != engine);
+        }
+    }
+
+    /** With a length changed behind the back of the object, only the search on the net itself is right. */
+    private static void anOldPreparationShows() throws ReflectiveOperationException {
+        RouteSuite x = net();
+        cells(x, "lengths")[0] = 1;
+        CHECK.due("sound() with an old preparation", x.sound(), false);
+        CHECK.due("agree(0, 1) with an old preparation", x.agree(0, 1), false);
+    }
+}
