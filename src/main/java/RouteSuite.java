@@ -246,11 +246,7 @@ public final class RouteSuite {
     }
 
     private boolean isRoad(int k) {
-        return k >= 0 && k < ROADS && isIn(k, present);
-    }
-
-    private static boolean isIn(int k, int set) {
-        return (set & (1 << k)) != 0;
+        return k >= 0 && k < ROADS && (present & (1 << k)) != 0;
     }
 
     private static int orNone(int found) {
@@ -340,7 +336,7 @@ public final class RouteSuite {
 
     private void goOn(int p, int[] tails, int[] heads, int allowed) {
         for (int k = 0; k < ROADS; k++) {
-            if (isIn(k, allowed) && tails[k] == p) {
+            if ((allowed & (1 << k)) != 0 && tails[k] == p) {
                 int reached = best[p] + lengths[k];
                 if (reached < best[heads[k]]) {
                     best[heads[k]] = reached;

@@ -2,7 +2,7 @@ import java.lang.reflect.Field;
 
 /**
  * Spoils what is prepared, cell by cell, from outside: sound() must see each one, agree() must see
- * what changes a distance, and an engine must be the only one to use what is prepared for it.
+ * each distance that differs, and an engine must be the only one to use what is prepared for it.
  */
 public final class PreparedTest {
     private static final String[][] PREPARED = {
@@ -17,6 +17,7 @@ public final class PreparedTest {
             }
             onlyItsEngineSees(engine);
         }
+        agreeLooksAtEveryPair();
         anOldPreparationShows();
         CHECK.finish();
     }
@@ -69,6 +70,18 @@ public final class PreparedTest {
                 x.agree(other, engine), other == engine);
             CHECK.due("agree(" + other + ", 0) with " + engine + " spoilt", x.agree(other, 0), other != engine);
         }
+    }
+
+    private static void agreeLooksAtEveryPair() throws ReflectiveOperationException {
+        RouteSuite x = net();
+        int[] table = cells(x, "table");
+        for (int i = 0; i < table.length; i++) {
+            table[i]++;
+            CHECK.due("agree(0, 1) with the pair " + i + " spoilt", x.agree(0, 1), false);
+            CHECK.due("agree(1, 0) with the pair " + i + " spoilt", x.agree(1, 0), false);
+            table[i]--;
+        }
+        CHECK.due("agree(0, 1) with all put right", x.agree(0, 1), true);
     }
 
     /** With a length changed behind the back of the object, only the search on the net itself is right. */
