@@ -45,7 +45,9 @@ public final class PreparedTest {
             RouteSuite x = net();
             int[] cells = cells(x, name);
             int right = cells[i];
-            int[] wrongs = name.equals("signs") ? new int[] {right < 0 ? 0 : -1, -2, 28} : new int[] {right + 1, right - 1};
+            int[] wrongs = name.equals("signs")
+                ? new int[] {right < 0 ? 0 : -1, -2, 28}
+                : new int[] {right + 1, right - 1};
             for (int wrong : wrongs) {
                 cells[i] = wrong;
                 CHECK.due("sound() with " + wrong + " for " + right + " at " + name + " " + i, x.sound(), false);

@@ -3,10 +3,6 @@ public final class PromisesTest {
     private static final int BAD = RouteSuite.BAD;
     private static final int FULL = RouteSuite.FULL;
     private static final int NONE = RouteSuite.NONE;
-    private static final int[] NO_POINTS = {-1, 12, 13, 31, 32, 44, Integer.MIN_VALUE, Integer.MAX_VALUE};
-    private static final int[] NO_ROADS = {-1, 28, 31, 32, 33, 60, -32, Integer.MIN_VALUE, Integer.MAX_VALUE};
-    private static final int[] NO_LENGTHS = {0, -1, 31, 257, Integer.MIN_VALUE, Integer.MAX_VALUE};
-    private static final int[] NO_ENGINES = {-1, 7, 8, Integer.MIN_VALUE, Integer.MAX_VALUE};
     private static final Check CHECK = new Check();
 
     public static void main(String[] args) {
@@ -39,35 +35,6 @@ public final class PromisesTest {
         return set;
     }
 
-    /** 0 -4- 1 -3- 2 -5- 3 in a row with 0 -12- 3 beside it, 3 -1- 0 back, and 5 -30- 6 apart. */
-    private static RouteSuite smallNet() {
-        RouteSuite x = new RouteSuite();
-        x.add(0, 1, 4);
-        x.add(1, 2, 3);
-        x.add(2, 3, 5);
-        x.add(0, 3, 12);
-        x.add(3, 0, 1);
-        x.add(5, 6, 30);
-        return x;
-    }
-
-    /** The longest way there can be: 11 roads of length 30 from point 11 down to 0. */
-    private static RouteSuite longRow() {
-        RouteSuite x = new RouteSuite();
-        for (int p = 11; p > 0; p--) {
-            x.add(p, p - 1, 30);
-        }
-        return x;
-    }
-
-    private static RouteSuite fullNet() {
-        RouteSuite x = new RouteSuite();
-        for (int k = 0; k < 28; k++) {
-            x.add(k % 12, (k + 1) % 12, k + 1);
-        }
-        return x;
-    }
-
     private static void theConstants() {
         CHECK.due("BAD", BAD, -1);
         CHECK.due("FULL", FULL, -2);
@@ -93,11 +60,11 @@ public final class PromisesTest {
 
     private static void add() {
         RouteSuite x = new RouteSuite();
-        for (int p : NO_POINTS) {
+        for (int p : Wrong.POINTS) {
             CHECK.due("add from " + p, x.add(p, 0, 1), BAD);
             CHECK.due("add to " + p, x.add(0, p, 1), BAD);
         }
-        for (int length : NO_LENGTHS) {
+        for (int length : Wrong.LENGTHS) {
             CHECK.due("add of length " + length, x.add(0, 1, length), BAD);
         }
         for (int p = 0; p < 12; p++) {
@@ -119,7 +86,7 @@ public final class PromisesTest {
     }
 
     private static void addWhenFull() {
-        RouteSuite x = fullNet();
+        RouteSuite x = Nets.full();
         CHECK.due("full: roads()", x.roads(), 0xFFFFFFF);
         CHECK.due("full: add(0, 1, 1)", x.add(0, 1, 1), FULL);
         CHECK.due("full: add of a wrong point", x.add(12, 1, 1), BAD);
@@ -136,8 +103,8 @@ public final class PromisesTest {
     }
 
     private static void remove() {
-        RouteSuite x = smallNet();
-        for (int k : NO_ROADS) {
+        RouteSuite x = Nets.small();
+        for (int k : Wrong.ROADS) {
             CHECK.due("remove " + k, x.remove(k), BAD);
         }
         CHECK.due("remove of one that never was", x.remove(6), BAD);
@@ -157,12 +124,12 @@ public final class PromisesTest {
     }
 
     private static void change() {
-        RouteSuite x = smallNet();
-        for (int k : NO_ROADS) {
+        RouteSuite x = Nets.small();
+        for (int k : Wrong.ROADS) {
             CHECK.due("change " + k, x.change(k, 5), BAD);
         }
         CHECK.due("change of one that never was", x.change(6, 5), BAD);
-        for (int length : NO_LENGTHS) {
+        for (int length : Wrong.LENGTHS) {
             CHECK.due("change to " + length, x.change(0, length), BAD);
         }
         CHECK.due("wrong changes change nothing", x.distance(0, 0, 1), 4);
@@ -192,9 +159,9 @@ public final class PromisesTest {
     }
 
     private static void distance() {
-        RouteSuite x = smallNet();
-        RouteSuite row = longRow();
         for (int engine = 0; engine < 7; engine++) {
+            RouteSuite x = Nets.small();
+            RouteSuite row = Nets.longRow();
             String by = "engine " + engine + ": ";
             CHECK.due(by + "0 to 3, both ways as long", x.distance(engine, 0, 3), 12);
             CHECK.due(by + "1 to 0", x.distance(engine, 1, 0), 9);
@@ -206,26 +173,27 @@ public final class PromisesTest {
             CHECK.due(by + "11 to 11", x.distance(engine, 11, 11), 0);
             CHECK.due(by + "the longest", row.distance(engine, 11, 0), 330);
             CHECK.due(by + "the longest back", row.distance(engine, 0, 11), NONE);
-            for (int p : NO_POINTS) {
+            for (int p : Wrong.POINTS) {
                 CHECK.due(by + "from " + p, x.distance(engine, p, 0), BAD);
                 CHECK.due(by + "to " + p, x.distance(engine, 0, p), BAD);
                 CHECK.due(by + "from and to " + p, x.distance(engine, p, p), BAD);
             }
         }
-        for (int engine : NO_ENGINES) {
+        RouteSuite x = Nets.small();
+        for (int engine : Wrong.ENGINES) {
             CHECK.due("distance by engine " + engine, x.distance(engine, 0, 3), BAD);
             CHECK.due("distance by engine " + engine, x.distance(engine, 0, 5), BAD);
         }
     }
 
     private static void agree() {
-        RouteSuite[] nets = {new RouteSuite(), smallNet(), longRow(), fullNet()};
+        RouteSuite[] nets = {new RouteSuite(), Nets.small(), Nets.longRow(), Nets.full()};
         for (RouteSuite x : nets) {
             for (int engine = 0; engine < 7; engine++) {
                 for (int other = 0; other < 7; other++) {
                     CHECK.due("agree(" + engine + ", " + other + ")", x.agree(engine, other), true);
                 }
-                for (int none : NO_ENGINES) {
+                for (int none : Wrong.ENGINES) {
                     CHECK.due("agree(" + engine + ", " + none + ")", x.agree(engine, none), false);
                     CHECK.due("agree(" + none + ", " + engine + ")", x.agree(none, engine), false);
                     CHECK.due("agree(" + none + ", " + none + ")", x.agree(none, none), false);
@@ -235,7 +203,7 @@ public final class PromisesTest {
     }
 
     private static void between() {
-        RouteSuite x = smallNet();
+        RouteSuite x = Nets.small();
         CHECK.due("between on two ways as long", x.between(0, 3), bits(0, 1, 2, 3));
         x.change(3, 11);
         CHECK.due("between on the one shorter way", x.between(0, 3), bits(0, 3));
@@ -246,8 +214,8 @@ public final class PromisesTest {
         CHECK.due("between of a point without roads", x.between(11, 11), bits(11));
         CHECK.due("between without a route", x.between(6, 5), 0);
         CHECK.due("between without a route", x.between(0, 5), 0);
-        CHECK.due("between on the longest", longRow().between(11, 0), 0xFFF);
-        for (int p : NO_POINTS) {
+        CHECK.due("between on the longest", Nets.longRow().between(11, 0), 0xFFF);
+        for (int p : Wrong.POINTS) {
             CHECK.due("between from " + p, x.between(p, 0), BAD);
             CHECK.due("between to " + p, x.between(0, p), BAD);
             CHECK.due("between from and to " + p, x.between(p, p), BAD);
@@ -255,7 +223,7 @@ public final class PromisesTest {
     }
 
     private static void around() {
-        RouteSuite x = smallNet();
+        RouteSuite x = Nets.small();
         CHECK.due("around(0, -1)", x.around(0, -1), 0);
         CHECK.due("around(0, least int)", x.around(0, Integer.MIN_VALUE), 0);
         CHECK.due("around(0, 0)", x.around(0, 0), bits(0));
@@ -266,16 +234,16 @@ public final class PromisesTest {
         CHECK.due("around(0, 1000000)", x.around(0, 1000000), bits(0, 1, 2, 3));
         CHECK.due("around(0, greatest int)", x.around(0, Integer.MAX_VALUE), bits(0, 1, 2, 3));
         CHECK.due("around(6, greatest int)", x.around(6, Integer.MAX_VALUE), bits(6));
-        CHECK.due("around(11, 329) on the longest", longRow().around(11, 329), 0xFFE);
-        CHECK.due("around(11, 330) on the longest", longRow().around(11, 330), 0xFFF);
-        for (int p : NO_POINTS) {
+        CHECK.due("around(11, 329) on the longest", Nets.longRow().around(11, 329), 0xFFE);
+        CHECK.due("around(11, 330) on the longest", Nets.longRow().around(11, 330), 0xFFF);
+        for (int p : Wrong.POINTS) {
             CHECK.due("around " + p, x.around(p, 5), BAD);
             CHECK.due("around " + p, x.around(p, -5), BAD);
         }
     }
 
     private static void detour() {
-        RouteSuite x = smallNet();
+        RouteSuite x = Nets.small();
         CHECK.due("detour of one of two ways as long", x.detour(3), 0);
         x.change(3, 7);
         CHECK.due("detour of the shorter way", x.detour(3), 5);
@@ -292,37 +260,37 @@ public final class PromisesTest {
         CHECK.due("detour takes no road away", x.roads(), bits(0, 1, 2, 3, 4, 5, 6));
         x.remove(6);
         CHECK.due("detour of one taken away", x.detour(6), BAD);
-        for (int k : NO_ROADS) {
+        for (int k : Wrong.ROADS) {
             CHECK.due("detour " + k, x.detour(k), BAD);
         }
     }
 
     private static void farthest() {
-        RouteSuite x = smallNet();
+        RouteSuite x = Nets.small();
         CHECK.due("farthest(0)", x.farthest(0), 12);
         CHECK.due("farthest(1)", x.farthest(1), 9);
         CHECK.due("farthest(2)", x.farthest(2), 10);
         CHECK.due("farthest(5)", x.farthest(5), 30);
         CHECK.due("farthest(6), to itself alone", x.farthest(6), 0);
         CHECK.due("farthest(11), without roads", x.farthest(11), 0);
-        CHECK.due("farthest on the longest", longRow().farthest(11), 330);
-        for (int p : NO_POINTS) {
+        CHECK.due("farthest on the longest", Nets.longRow().farthest(11), 330);
+        for (int p : Wrong.POINTS) {
             CHECK.due("farthest " + p, x.farthest(p), BAD);
         }
     }
 
     private static void widest() {
-        RouteSuite x = smallNet();
+        RouteSuite x = Nets.small();
         CHECK.due("widest()", x.widest(), 30);
         x.remove(5);
         CHECK.due("widest() without road 5", x.widest(), 12);
         x.change(4, 30);
         CHECK.due("widest() with a long way back", x.widest(), 39);
-        CHECK.due("widest() on the longest", longRow().widest(), 330);
+        CHECK.due("widest() on the longest", Nets.longRow().widest(), 330);
     }
 
     private static void needless() {
-        RouteSuite x = smallNet();
+        RouteSuite x = Nets.small();
         CHECK.due("needless() with two ways as long", x.needless(), 0);
         x.change(3, 13);
         CHECK.due("needless() with one that is longer", x.needless(), bits(3));
@@ -342,7 +310,7 @@ public final class PromisesTest {
     }
 
     private static void over() {
-        RouteSuite x = smallNet();
+        RouteSuite x = Nets.small();
         CHECK.due("over a point on the way", x.over(0, 1, 3), 12);
         CHECK.due("over the start", x.over(0, 0, 3), 12);
         CHECK.due("over the goal", x.over(0, 3, 3), 12);
@@ -353,7 +321,7 @@ public final class PromisesTest {
         CHECK.due("over a point with no way on", x.over(5, 6, 5), NONE);
         CHECK.due("over a point with no way to it", x.over(6, 5, 6), NONE);
         CHECK.due("over with no way at all", x.over(8, 9, 10), NONE);
-        for (int p : NO_POINTS) {
+        for (int p : Wrong.POINTS) {
             CHECK.due("over from " + p, x.over(p, 0, 0), BAD);
             CHECK.due("over " + p, x.over(0, p, 0), BAD);
             CHECK.due("over to " + p, x.over(0, 0, p), BAD);
@@ -383,7 +351,7 @@ public final class PromisesTest {
     }
 
     private static void objectsAreApart() {
-        RouteSuite x = smallNet();
+        RouteSuite x = Nets.small();
         RouteSuite y = new RouteSuite();
         CHECK.due("a second object has no roads", y.roads(), 0);
         y.add(0, 1, 30);
