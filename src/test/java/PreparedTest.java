@@ -19,6 +19,7 @@ public final class PreparedTest {
         }
         agreeLooksAtEveryPair();
         anOldPreparationShows();
+        aTableShowsThatMissesAShorterRoad();
         CHECK.finish();
     }
 
@@ -92,5 +93,24 @@ public final class PreparedTest {
         cells(x, "lengths")[0] = 1;
         CHECK.due("sound() with an old preparation", x.sound(), false);
         CHECK.due("agree(0, 1) with an old preparation", x.agree(0, 1), false);
+    }
+
+    /**
+     * All that is held against the table fits it here, and the shortcuts fit the net: only who holds
+     * the table itself against the net can see that it misses the shorter road.
+     */
+    private static void aTableShowsThatMissesAShorterRoad() throws ReflectiveOperationException {
+        for (int a = 0; a < 12; a++) {
+            for (int b = 0; b < 12; b++) {
+                if (a != b) {
+                    RouteSuite x = new RouteSuite();
+                    x.add(a, b, 5);
+                    x.add(a, b, 9);
+                    cells(x, "lengths")[1] = 3;
+                    cells(x, "climb")[a * 12 + b] = 3;
+                    CHECK.due("sound() with a shorter road missed from " + a + " to " + b, x.sound(), false);
+                }
+            }
+        }
     }
 }
